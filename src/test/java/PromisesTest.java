@@ -31,6 +31,8 @@ public final class PromisesTest {
         promise11DoAllOrNone();
         promise12Undo();
         promise12ActsThatAreRecorded();
+        promise12UndoOfEachAct();
+        promise12DamageFollows();
         promise13Keep();
         promise14Restore();
         promise15Frame();
@@ -194,6 +196,10 @@ public final class PromisesTest {
         due("18 to 36", damaged(18, 36, 0, 0), 2);
         due("359", damaged(359, 359, 0, 0), 1);
         due("0 to 359", damaged(0, 359, 0, 0), 20);
+        // 19 frames of 18 degrees and 18/19: the frame 1 begins 1/19 of a degree ahead of 19
+        due("18 of 19", damaged(18, 18, 0, 0, 19), 2);
+        due("17 of 19", damaged(17, 17, 0, 0, 19), 1);
+        due("19 of 19", damaged(19, 19, 0, 0, 19), 1);
         // 22 frames of 16 degrees and 4/11: the frame 1 begins within the degree 16
         due("15", damaged(15, 15, 1, 1), 1);
         due("16", damaged(16, 16, 1, 1), 2);
@@ -644,6 +650,97 @@ public final class PromisesTest {
         due("doAll", x.count(15), 4);
     }
 
+    /** All that tells the state, but for the number of states and the text. */
+    private static String picture(LineDisc x) {
+        StringBuilder picture = new StringBuilder();
+        for (int what = 0; what <= 22; what++) {
+            picture.append(what == 15 || what == 16 ? 0 : x.count(what)).append(' ');
+        }
+        for (int scratch = 0; scratch < x.count(2); scratch++) {
+            for (int what = 0; what <= 4; what++) {
+                picture.append(x.scratchOf(scratch, what)).append(' ');
+            }
+        }
+        for (int frame = 0; frame < 60; frame++) {
+            for (int place = 0; place < 4; place++) {
+                picture.append(x.symbol(frame, place, false)).append(x.symbol(frame, place, true)).append(' ');
+            }
+        }
+        return picture.append(x.ifSought(1100, 0)).append(' ').append(x.right()).append(' ').append(x.gap(0)).toString();
+    }
+
+    private static int act(LineDisc x, int number) {
+        switch (number) {
+            case 0: return x.press(5, 1, 7);
+            case 1: return x.scratch(18, 71, 0, 3);
+            case 2: return x.set(2, 7);
+            case 3: return x.play(45);
+            case 4: return x.set(3, 4);
+            case 5: return x.press(1, 3, 9);
+            case 6: return x.seek(1200);
+            case 7: return x.set(5, 17);
+            case 8: return x.scratch(90, 95, 1, 29);
+            case 9: return x.polish(0);
+            case 10: return x.set(4, 61);
+            case 11: return x.press(5, 1, 3);
+            case 12: return x.restore();
+            case 13: return x.set(1, 5);
+            case 14: return x.set(0, 33);
+            case 15: return x.press(1, 3, 12);
+            default: return x.doAll();
+        }
+    }
+
+    private static void promise12UndoOfEachAct() {
+        DUE.part("promise 12, each act");
+        for (int acts = 1; acts <= 17; acts++) {
+            LineDisc x = new LineDisc();
+            x.play(2);
+            x.keep();
+            Due.typeAll(x, "press=2.2:2;scratch=1-90@0-9;seek=5;play=3");
+            String[] pictures = new String[acts + 1];
+            pictures[0] = picture(x);
+            for (int i = 0; i < acts; i++) {
+                DUE.holds("act " + i + " is done", act(x, i) >= 0);
+                pictures[i + 1] = picture(x);
+                DUE.holds("act " + i + " changes the state", !pictures[i + 1].equals(pictures[i]));
+            }
+            for (int i = acts - 1; i >= 0 && i >= acts - 4; i--) {
+                DUE.holds("act " + i + " of " + acts + " is undone", x.undo() >= 0 && picture(x).equals(pictures[i]));
+            }
+        }
+    }
+
+    /** The first question behind a change must not be answered by how the frames were before it. */
+    private static void promise12DamageFollows() {
+        DUE.part("promise 12, damage follows");
+        LineDisc x = new LineDisc();
+        x.scratch(0, 35, 0, 0);
+        x.undo();
+        DUE.dueDouble("right", x.right(), 1.0);
+        x.scratch(0, 35, 0, 0);
+        x.undo();
+        due("gap", x.gap(0), NONE);
+        x.scratch(0, 35, 0, 0);
+        x.keep();
+        x.polish(0);
+        x.scratch(54, 107, 1, 2);
+        x.restore();
+        due("all other parts", x.frame(0, 5), 3);
+        x.polish(0);
+        x.scratch(18, 35, 0, 0);
+        x.restore();
+        due("only another angle to begin with", x.frame(0, 5), 3);
+        x.set(0, 40);
+        // 40 frames of 9 degrees
+        due("more frames", x.count(13), 4);
+        x.set(1, 0);
+        due("fewer frames", x.gap(1), 4);
+        x.undo();
+        x.undo();
+        due("as before", x.count(13), 2);
+    }
+
     private static void promise13Keep() {
         DUE.part("promise 13");
         LineDisc x = new LineDisc();
@@ -733,6 +830,16 @@ public final class PromisesTest {
         dueFrame(x, 0, 0, 0, 0, 0, 0, 0, 36, 88, 6);
         x.press(0, 0, 12);
         dueFrame(x, 0, 0, 0, 0, 0, 0, 0, 36, 94, 6);
+        LineDisc y = new LineDisc();
+        y.press(0, 1, 0);
+        y.press(0, 2, 0);
+        y.press(0, 3, 0);
+        y.press(0, 0, 8);
+        dueFrame(y, 0, 0, 0, 0, 0, 0, 0, 26, 102, 5);
+        y.press(0, 0, 2);
+        dueFrame(y, 0, 0, 0, 0, 0, 0, 0, 26, 98, 5);
+        y.press(0, 3, 7);
+        dueFrame(y, 0, 0, 0, 0, 0, 0, 0, 30, 96, 6);
     }
 
     private static void dueSymbols(LineDisc x, int frame, int... want) {
@@ -771,6 +878,8 @@ public final class PromisesTest {
         dueHow(scratched(4, 5, 9), 0, 0, 0, 0, 0, 1, 2, 0, 0, 0, 3);
         // a mended one can fill
         dueHow(scratched(3, 5, 7), 0, 0, 0, 0, 1, 0, 2, 0, 2, 0, 0);
+        dueHow(scratched(1, 3, 5), 0, 0, 2, 0, 2, 0, 1, 0);
+        dueHow(scratched(8, 10, 12), 7, 0, 1, 0, 2, 0, 2, 0);
         // a filled one cannot, nor a missing one
         dueHow(scratched(1, 3, 5, 7), 0, 0, 2, 0, 3, 0, 3, 0, 2, 0, 0);
         dueHow(scratched(0, 1, 2, 3, 4, 5), 0, 3, 3, 3, 3, 3, 1, 0);
@@ -782,6 +891,13 @@ public final class PromisesTest {
         dueHow(x, 0, 0, 0, 0, 1, 0);
         x.undo();
         dueHow(x, 0, 0, 2, 0, 2, 0);
+        // 78 frames in the last turn: 76 and 77 have no data frame behind them
+        LineDisc y = new LineDisc();
+        due("the last two", y.scratch(351, 359, 29, 29), 2);
+        dueHow(y, 1466, 0, 0, 3, 3);
+        y.polish(0);
+        due("the last one", y.scratch(356, 359, 29, 29), 1);
+        dueHow(y, 1466, 0, 0, 0, 1);
     }
 
     /** There are 30 * a + 435 * b frames, which 5 divides, so all of them have a group. */
@@ -982,6 +1098,10 @@ public final class PromisesTest {
         due("jumps for nothing", y.bestGuess(1392), 60);
         due("set", y.set(4, 140), 90);
         due("guess of the setting is no matter", y.bestGuess(1392), 60);
+        // turns of 8, 10, 12, 14 and 16: by 74 hundredths three jumps take 10 ticks; by 75 it is 3 turns,
+        // then 1, in 5 and 3 ticks; by 100 one jump takes 6 ticks, and the motor 2 more
+        LineDisc w = with(8, 2, 1, 0, 90, 2);
+        due("of 75 to 140 the lowest", w.bestGuess(44), 75);
         LineDisc z = new LineDisc();
         z.seek(1469);
         due("back", z.bestGuess(1350), bestByTrying(z, 1350));
@@ -1076,5 +1196,8 @@ public final class PromisesTest {
         // 4 is a check and missing too; 7 is whole
         due("over a check", y.gap(0), 2);
         due("over a check", y.gap(1), 5);
+        LineDisc z = scratched(0, 2);
+        due("the frame 0", z.gap(0), 0);
+        due("alone", z.gap(1), 1);
     }
 }

@@ -416,6 +416,10 @@ public final class PromisesTest {
         due("jumps", y.count(9), 3);
         due("in, rounded towards 0", y.seek(0), 3);
         due("jumps", y.count(9), 6);
+        due("to the turn 3", y.seek(66), 3);
+        due("in by one at least", y.seek(42), 1);
+        due("jumps", y.count(9), 10);
+        due("turn", y.count(4), 2);
         LineDisc z = with(20, 0, 1, 0, 100, 20);
         due("right at once", z.seek(599), 20 + 29 + 19);
         due("one jump", z.count(9), 1);
@@ -449,6 +453,14 @@ public final class PromisesTest {
         due("empty", x.clearText(), 0);
         due("fault", x.fault(), 0);
         due("nothing recorded", x.count(15), 0);
+        // nothing of a longer text that was cleared may be read on
+        Due.typeAll(x, "seek=123;seek=4");
+        Due.typeAll(x, "seek=");
+        due("fault", x.fault(), 5);
+        x.type('7');
+        due("fault", x.fault(), NONE);
+        due("doAll", x.doAll(), 1);
+        due("head", x.count(3), 7);
     }
 
     private static void dueFault(String text, int want) {

@@ -60,14 +60,6 @@ public final class PromisesTest {
         }
     }
 
-    private static LineDisc with(int... settings) {
-        LineDisc x = new LineDisc();
-        for (int i = 0; i < settings.length; i++) {
-            x.set(i, settings[i]);
-        }
-        return x;
-    }
-
     private static void promise1NewObject() {
         DUE.part("promise 1");
         LineDisc x = new LineDisc();
@@ -106,41 +98,32 @@ public final class PromisesTest {
         due("recorded", x.count(15), 3);
     }
 
-    /** Frames 0 to 3, 5 to 8 and so on, so that none of them is a check. */
-    private static int dataFrame(int number) {
-        return number / 4 * 5 + number % 4;
-    }
-
-    private static int atFirst(int frame, int place) {
-        return (7 * frame + 3 * place) % 16;
-    }
-
     private static void promise2PressWithoutRoom() {
         DUE.part("promise 2, without room");
         LineDisc x = new LineDisc();
         for (int i = 0; i < 40; i++) {
-            int frame = dataFrame(i);
-            int old = atFirst(frame, i % 4);
+            int frame = Discs.dataFrame(i);
+            int old = Discs.atFirst(frame, i % 4);
             due("press " + i, x.press(frame, i % 4, (old + 1) % 16), old);
         }
         due("40 symbols", x.count(14), 40);
-        int other = dataFrame(40);
-        due("no room", x.press(other, 0, (atFirst(other, 0) + 1) % 16), FULL);
+        int other = Discs.dataFrame(40);
+        due("no room", x.press(other, 0, (Discs.atFirst(other, 0) + 1) % 16), FULL);
         due("no room at another place", x.press(0, 1, 0), FULL);
-        due("the same", x.press(other, 0, atFirst(other, 0)), NONE);
+        due("the same", x.press(other, 0, Discs.atFirst(other, 0)), NONE);
         due("check", x.press(4, 0, 0), NOT_POSSIBLE);
         due("bad value", x.press(other, 0, 16), BAD_VALUE);
         due("unknown", x.press(1470, 0, 0), UNKNOWN);
         due("one of them", x.press(0, 0, 9), 1);
-        due("the last of them", x.press(dataFrame(39), 3, atFirst(dataFrame(39), 3)), atFirst(dataFrame(39), 3) + 1);
+        due("the last of them", x.press(Discs.dataFrame(39), 3, Discs.atFirst(Discs.dataFrame(39), 3)), Discs.atFirst(Discs.dataFrame(39), 3) + 1);
         due("39 symbols", x.count(14), 39);
-        due("room again", x.press(other, 0, 0), atFirst(other, 0));
+        due("room again", x.press(other, 0, 0), Discs.atFirst(other, 0));
         due("40 symbols", x.count(14), 40);
         due("no room", x.press(0, 1, 0), FULL);
         due("first of them to as at first", x.press(0, 0, 0), 9);
         for (int i = 1; i < 39; i++) {
-            int frame = dataFrame(i);
-            due("stays " + i, x.symbol(frame, i % 4, false), (atFirst(frame, i % 4) + 1) % 16);
+            int frame = Discs.dataFrame(i);
+            due("stays " + i, x.symbol(frame, i % 4, false), (Discs.atFirst(frame, i % 4) + 1) % 16);
         }
     }
 
@@ -183,7 +166,7 @@ public final class PromisesTest {
     }
 
     private static int damaged(int from, int to, int inner, int outer, int... settings) {
-        return with(settings).scratch(from, to, inner, outer);
+        return Discs.with(settings).scratch(from, to, inner, outer);
     }
 
     private static void promise3ScratchEdges() {
@@ -300,7 +283,7 @@ public final class PromisesTest {
 
     private static void promise6Play() {
         DUE.part("promise 6");
-        LineDisc x = with(20, 2, 1, 0);
+        LineDisc x = Discs.with(20, 2, 1, 0);
         due("0", x.play(0), BAD_VALUE);
         due("1000", x.play(1000), BAD_VALUE);
         due("extreme", x.play(MIN), BAD_VALUE);
@@ -313,7 +296,7 @@ public final class PromisesTest {
         due("play", x.play(21), 21);
         dueCounts(x, 3, 42, 2, 22, 43);
         // off by one is near enough with the setting 3 at 1
-        LineDisc y = with(20, 2, 1, 1);
+        LineDisc y = Discs.with(20, 2, 1, 1);
         due("play", y.play(21), 21);
         dueCounts(y, 3, 21, 1, 21, 21);
         due("play", y.play(1), 1);
@@ -377,18 +360,18 @@ public final class PromisesTest {
     }
 
     private static void waits() {
-        LineDisc x = with(8, 6, 1, 0);
+        LineDisc x = Discs.with(8, 6, 1, 0);
         // a jump of 5 ticks: from 8 to 13; one tick more for 14
         due("out", x.seek(8), 6);
         dueCounts(x, 3, 8, 1, 14);
         due("in", x.seek(7), 5 + 1 + 7);
         dueCounts(x, 3, 7, 0, 8);
-        LineDisc y = with(8, 6, 1, 5, 90, 0);
+        LineDisc y = Discs.with(8, 6, 1, 5, 90, 0);
         // a jump of 1 tick: from 8 to 9, which is 5 off
         due("near enough", y.seek(8), 1);
         due("speed stays", y.seek(10), 2);
         due("speed", y.count(5), 9);
-        LineDisc z = with(8, 6, 1, 4, 90, 0);
+        LineDisc z = Discs.with(8, 6, 1, 4, 90, 0);
         due("not near enough", z.seek(8), 2);
         due("speed", z.count(5), 10);
         // the speed is off already where no jump is needed
@@ -399,7 +382,7 @@ public final class PromisesTest {
 
     private static void promise7SeekJumps() {
         DUE.part("promise 7, jumps");
-        LineDisc x = with(20, 2, 3, 1, 140, 4);
+        LineDisc x = Discs.with(20, 2, 3, 1, 140, 4);
         // 40 turns by the guess, 29 are there
         due("not beyond 29", x.seek(1392), 33);
         due("one jump", x.count(9), 1);
@@ -410,7 +393,7 @@ public final class PromisesTest {
         due("too far", x.seek(120), 11 + 6);
         dueCounts(x, 3, 120, 5, 30);
         due("jumps", x.count(9), 4);
-        LineDisc y = with(20, 2, 3, 1, 60, 0);
+        LineDisc y = Discs.with(20, 2, 3, 1, 60, 0);
         // 1.8, 1.2 and 0.6 turns
         due("out", y.seek(66), 3);
         due("jumps", y.count(9), 3);
@@ -420,7 +403,7 @@ public final class PromisesTest {
         due("in by one at least", y.seek(42), 1);
         due("jumps", y.count(9), 10);
         due("turn", y.count(4), 2);
-        LineDisc z = with(20, 0, 1, 0, 100, 20);
+        LineDisc z = Discs.with(20, 0, 1, 0, 100, 20);
         due("right at once", z.seek(599), 20 + 29 + 19);
         due("one jump", z.count(9), 1);
         due("undo", z.undo(), 3);
@@ -860,15 +843,6 @@ public final class PromisesTest {
         }
     }
 
-    /** Scratches the frames of the turn 0 with these indexes (20 frames of 18 degrees). */
-    private static LineDisc scratched(int... indexes) {
-        LineDisc x = new LineDisc();
-        for (int index : indexes) {
-            x.scratch(18 * index, 18 * index + 17, 0, 0);
-        }
-        return x;
-    }
-
     private static void dueHow(LineDisc x, int first, int... want) {
         for (int i = 0; i < want.length; i++) {
             due("frame(" + (first + i) + ", 5)", x.frame(first + i, 5), want[i]);
@@ -878,27 +852,27 @@ public final class PromisesTest {
 
     private static void promise15HowFramesAre() {
         DUE.part("promise 15, how");
-        dueHow(scratched(0), 0, 1, 0, 0, 0, 0);
-        dueHow(scratched(4), 0, 0, 0, 0, 0, 1);
+        dueHow(Discs.scratched(0), 0, 1, 0, 0, 0, 0);
+        dueHow(Discs.scratched(4), 0, 0, 0, 0, 0, 1);
         // nothing is ahead of the frame 0
-        dueHow(scratched(0, 2), 0, 3, 0, 2, 0, 0);
-        dueHow(scratched(1, 3), 0, 0, 2, 0, 2, 0, 0);
-        dueHow(scratched(1, 2), 0, 0, 3, 3, 0, 0);
+        dueHow(Discs.scratched(0, 2), 0, 3, 0, 2, 0, 0);
+        dueHow(Discs.scratched(1, 3), 0, 0, 2, 0, 2, 0, 0);
+        dueHow(Discs.scratched(1, 2), 0, 0, 3, 3, 0, 0);
         // a check is never filled, and is passed over
-        dueHow(scratched(3, 4), 0, 0, 0, 0, 2, 3, 0);
-        dueHow(scratched(5, 9), 0, 0, 0, 0, 0, 0, 2, 0, 0, 0, 3);
-        dueHow(scratched(4, 5, 9), 0, 0, 0, 0, 0, 1, 2, 0, 0, 0, 3);
+        dueHow(Discs.scratched(3, 4), 0, 0, 0, 0, 2, 3, 0);
+        dueHow(Discs.scratched(5, 9), 0, 0, 0, 0, 0, 0, 2, 0, 0, 0, 3);
+        dueHow(Discs.scratched(4, 5, 9), 0, 0, 0, 0, 0, 1, 2, 0, 0, 0, 3);
         // a mended one can fill
-        dueHow(scratched(3, 5, 7), 0, 0, 0, 0, 1, 0, 2, 0, 2, 0, 0);
-        dueHow(scratched(1, 3, 5), 0, 0, 2, 0, 2, 0, 1, 0);
-        dueHow(scratched(8, 10, 12), 7, 0, 1, 0, 2, 0, 2, 0);
+        dueHow(Discs.scratched(3, 5, 7), 0, 0, 0, 0, 1, 0, 2, 0, 2, 0, 0);
+        dueHow(Discs.scratched(1, 3, 5), 0, 0, 2, 0, 2, 0, 1, 0);
+        dueHow(Discs.scratched(8, 10, 12), 7, 0, 1, 0, 2, 0, 2, 0);
         // a filled one cannot, nor a missing one
-        dueHow(scratched(1, 3, 5, 7), 0, 0, 2, 0, 3, 0, 3, 0, 2, 0, 0);
-        dueHow(scratched(0, 1, 2, 3, 4, 5), 0, 3, 3, 3, 3, 3, 1, 0);
-        dueHow(scratched(1, 4), 0, 0, 2, 0, 0, 3);
+        dueHow(Discs.scratched(1, 3, 5, 7), 0, 0, 2, 0, 3, 0, 3, 0, 2, 0, 0);
+        dueHow(Discs.scratched(0, 1, 2, 3, 4, 5), 0, 3, 3, 3, 3, 3, 1, 0);
+        dueHow(Discs.scratched(1, 4), 0, 0, 2, 0, 0, 3);
         // two scratches over one frame damage it once
-        dueHow(scratched(1, 1), 0, 0, 1, 0, 0, 0);
-        LineDisc x = scratched(1, 3);
+        dueHow(Discs.scratched(1, 1), 0, 0, 1, 0, 0, 0);
+        LineDisc x = Discs.scratched(1, 3);
         x.polish(0);
         dueHow(x, 0, 0, 0, 0, 1, 0);
         x.undo();
@@ -916,7 +890,7 @@ public final class PromisesTest {
     private static void promise15Ends() {
         DUE.part("promise 15, ends");
         for (int first = 8; first <= 40; first++) {
-            LineDisc y = with(first, 1);
+            LineDisc y = Discs.with(first, 1);
             due("frames", y.count(0), 30 * first + 435);
             due("groups", y.count(1), (30 * first + 435) / 5);
             due("last is a check", y.frame(y.count(0) - 1, 3), 1);
@@ -927,7 +901,7 @@ public final class PromisesTest {
 
     private static void promise16Symbol() {
         DUE.part("promise 16");
-        LineDisc x = scratched(1, 3, 4, 7);
+        LineDisc x = Discs.scratched(1, 3, 4, 7);
         due("-1", x.symbol(-1, 4, true), UNKNOWN);
         due("1470", x.symbol(1470, -1, false), UNKNOWN);
         due("extreme", x.symbol(MAX, 0, false), UNKNOWN);
@@ -939,13 +913,13 @@ public final class PromisesTest {
         // the frames 2 and 5 have 14 1 4 7 and 3 6 9 12
         int[] passed = {8, 3, 6, 9};
         for (int place = 0; place < 4; place++) {
-            due("whole", x.symbol(0, place, true), atFirst(0, place));
+            due("whole", x.symbol(0, place, true), Discs.atFirst(0, place));
             due("filled", x.symbol(1, place, true), filled[place]);
-            due("as it stands", x.symbol(1, place, false), atFirst(1, place));
+            due("as it stands", x.symbol(1, place, false), Discs.atFirst(1, place));
             due("filled over a check", x.symbol(3, place, true), passed[place]);
             due("missing check", x.symbol(4, place, true), NONE);
             due("as it stands", x.symbol(4, place, false), new int[] {10, 6, 2, 14}[place]);
-            due("mended", x.symbol(7, place, true), atFirst(7, place));
+            due("mended", x.symbol(7, place, true), Discs.atFirst(7, place));
         }
         x.press(7, 2, 1);
         due("mended", x.symbol(7, 2, true), 1);
@@ -954,7 +928,7 @@ public final class PromisesTest {
         x.press(2, 3, 14);
         due("filled, rounded down", x.symbol(1, 3, true), 14);
         due("damaged check by what stands", x.symbol(4, 3, false), (15 + 0 + 14 + 14) % 16);
-        LineDisc y = scratched(9);
+        LineDisc y = Discs.scratched(9);
         due("mended check", y.symbol(9, 3, true), 10);
         y.press(5, 3, 13);
         due("mended check", y.symbol(9, 3, true), 11);
@@ -962,7 +936,7 @@ public final class PromisesTest {
 
     private static void promise17Turn() {
         DUE.part("promise 17");
-        LineDisc x = scratched(1, 2);
+        LineDisc x = Discs.scratched(1, 2);
         due("-1", x.turn(-1, 4), UNKNOWN);
         due("30", x.turn(30, -1), UNKNOWN);
         due("extreme", x.turn(MAX, 0), UNKNOWN);
@@ -981,7 +955,7 @@ public final class PromisesTest {
             due("length", x.turn(turn, 3), length);
             first += 20 + 2 * turn;
             if (turn == 10) {
-                x = scratched(1, 2);
+                x = Discs.scratched(1, 2);
             }
         }
         LineDisc y = new LineDisc();
@@ -1025,7 +999,7 @@ public final class PromisesTest {
 
     private static void promise19Count() {
         DUE.part("promise 19");
-        LineDisc x = scratched(0, 2, 7);
+        LineDisc x = Discs.scratched(0, 2, 7);
         due("-1", x.count(-1), BAD_VALUE);
         due("23", x.count(23), BAD_VALUE);
         due("extreme", x.count(MIN), BAD_VALUE);
@@ -1043,7 +1017,7 @@ public final class PromisesTest {
 
     private static void promise20Right() {
         DUE.part("promise 20");
-        LineDisc x = scratched(1, 3);
+        LineDisc x = Discs.scratched(1, 3);
         // 1176 data frames; the two filled ones are told wrong
         DUE.dueDouble("two wrong", x.right(), 1174.0 / 1176.0);
         x.press(1, 1, 2);
@@ -1055,15 +1029,15 @@ public final class PromisesTest {
         DUE.dueDouble("wrong again", x.right(), 1174.0 / 1176.0);
         x.polish(1);
         DUE.dueDouble("mended", x.right(), 1.0);
-        DUE.dueDouble("missing check", scratched(3, 4).right(), 1175.0 / 1176.0);
-        DUE.dueDouble("mended check", scratched(4).right(), 1.0);
-        DUE.dueDouble("missing", scratched(0, 1, 2).right(), 1173.0 / 1176.0);
+        DUE.dueDouble("missing check", Discs.scratched(3, 4).right(), 1175.0 / 1176.0);
+        DUE.dueDouble("mended check", Discs.scratched(4).right(), 1.0);
+        DUE.dueDouble("missing", Discs.scratched(0, 1, 2).right(), 1173.0 / 1176.0);
         LineDisc y = new LineDisc();
         y.scratch(0, 359, 0, 29);
         DUE.dueDouble("all missing", y.right(), 0.0);
-        LineDisc z = with(8, 0);
+        LineDisc z = Discs.with(8, 0);
         z.scratch(0, 359, 0, 0);
-        // the turn 0 has the groups 0 and the frames 5 to 7; 8 is whole, so 7 is filled, wrong
+        // 0 to 7 are damaged; 4 is a check, and none of the others is mended or filled
         DUE.dueDouble("small disc", z.right(), 185.0 / 192.0);
     }
 
@@ -1105,14 +1079,14 @@ public final class PromisesTest {
         due("setting stays", x.count(21), 90);
         dueCounts(x, 3, 0, 0, 20, 0, 0, 0, 0);
         due("no act", x.count(15), 0);
-        LineDisc y = with(20, 2, 3, 1, 90, 0);
+        LineDisc y = Discs.with(20, 2, 3, 1, 90, 0);
         // without ticks of a jump itself any guess that does not go too far takes 29
         due("jumps for nothing", y.bestGuess(1392), 60);
         due("set", y.set(4, 140), 90);
         due("guess of the setting is no matter", y.bestGuess(1392), 60);
         // turns of 8, 10, 12, 14 and 16: by 74 hundredths three jumps take 10 ticks; by 75 it is 3 turns,
         // then 1, in 5 and 3 ticks; by 100 one jump takes 6 ticks, and the motor 2 more
-        LineDisc w = with(8, 2, 1, 0, 90, 2);
+        LineDisc w = Discs.with(8, 2, 1, 0, 90, 2);
         due("of 75 to 140 the lowest", w.bestGuess(44), 75);
         LineDisc z = new LineDisc();
         z.seek(1469);
@@ -1156,14 +1130,14 @@ public final class PromisesTest {
         due("polish", x.polish(1), 4);
         due("of the same the lowest", x.polishFirst(0), 0);
         due("missing", x.polishFirst(1), 2);
-        LineDisc y = scratched(0, 0, 2, 2);
+        LineDisc y = Discs.scratched(0, 0, 2, 2);
         due("covered twice", y.polishFirst(0), 0);
         due("covered twice", y.polishFirst(1), 1);
-        LineDisc z = scratched(0, 0, 2, 3, 3);
+        LineDisc z = Discs.scratched(0, 0, 2, 3, 3);
         // without 2 the frame 3 is filled and 0 is missing; without a double nothing changes
         due("the third", z.polishFirst(0), 2);
         due("missing", z.polishFirst(1), 1);
-        LineDisc eight = scratched(0, 1, 2, 3, 4, 5, 6, 7);
+        LineDisc eight = Discs.scratched(0, 1, 2, 3, 4, 5, 6, 7);
         due("of eight", eight.polishFirst(0), bestPolish(eight, 0));
         due("of eight", eight.polishFirst(1), bestPolish(eight, 1));
     }
@@ -1204,11 +1178,11 @@ public final class PromisesTest {
         x.scratch(0, 359, 29, 29);
         due("to the end", x.gap(0), 1392);
         due("length", x.gap(1), 78);
-        LineDisc y = scratched(2, 3, 4, 5, 6);
+        LineDisc y = Discs.scratched(2, 3, 4, 5, 6);
         // 4 is a check and missing too; 7 is whole
         due("over a check", y.gap(0), 2);
         due("over a check", y.gap(1), 5);
-        LineDisc z = scratched(0, 2);
+        LineDisc z = Discs.scratched(0, 2);
         due("the frame 0", z.gap(0), 0);
         due("alone", z.gap(1), 1);
     }

@@ -146,13 +146,9 @@ public final class RunsTest {
             case "seek": return "seek=" + (upTo(9) == 0 ? number(9999) : upTo(x.count(0) - 1));
             case "play": return "play=" + (upTo(2) == 0 ? number(999) : upTo(20) + 1);
             default:
-                int frame = upTo(9) == 0 ? upTo(9999) : dataFrame(upTo(190));
+                int frame = upTo(9) == 0 ? upTo(9999) : Discs.dataFrame(upTo(190));
                 return "press=" + frame + "." + number(3) + ":" + number(15);
         }
-    }
-
-    private static int dataFrame(int number) {
-        return number / 4 * 5 + number % 4;
     }
 
     private void orders() {

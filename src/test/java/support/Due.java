@@ -2,10 +2,12 @@
 final class Due {
     private int asked = 0;
     private int wrong = 0;
+    private int wrongOfPart = 0;
     private String part = "";
 
     void part(String name) {
         part = name;
+        wrongOfPart = 0;
     }
 
     void due(String call, long got, long want) {
@@ -31,7 +33,9 @@ final class Due {
 
     private void miss(String text) {
         wrong++;
-        if (wrong <= 50) {
+        wrongOfPart++;
+        // a few of each part, so that one fault does not hide another
+        if (wrongOfPart <= 5) {
             System.out.println(part + ": " + text);
         }
     }

@@ -19,6 +19,7 @@ public final class FaceTest {
 
     public static void main(String[] args) throws IOException {
         face();
+        faceOfDocument();
         membersInside();
         source(Files.readString(Path.of("src/main/java/LineDisc.java"), StandardCharsets.UTF_8));
         anyArguments();
@@ -59,6 +60,44 @@ public final class FaceTest {
         for (int i = 0; i < values.length; i++) {
             DUE.due("constant " + i, values[i], -1 - i);
         }
+    }
+
+    /** The document's "public face": its constants with their values, and each method as it writes it. */
+    private static void faceOfDocument() throws IOException {
+        DUE.part("face of the document");
+        Path place = Path.of("../shared/DOC.md");
+        if (!Files.exists(place)) {
+            System.out.println("no " + place + " here: the face is not compared with it");
+            return;
+        }
+        String text = Files.readString(place, StandardCharsets.UTF_8);
+        int from = text.indexOf("public final class LineDisc {");
+        String face = text.substring(from, text.indexOf("```", from));
+        Set<String> written = new TreeSet<>();
+        Matcher method = Pattern.compile("public (int|double) (\\w+)\\((.*)\\);").matcher(face);
+        while (method.find()) {
+            written.add(method.group(1) + " " + method.group(2) + "(" + method.group(3).replaceAll(" \\w+(, )?", ",") + ")");
+        }
+        Matcher constant = Pattern.compile("public static final (int \\w+ = -?\\d+);").matcher(face);
+        while (constant.find()) {
+            written.add(constant.group(1));
+        }
+        DUE.holds("the face " + written, written.equals(faceOfClass()));
+    }
+
+    private static Set<String> faceOfClass() {
+        Set<String> told = new TreeSet<>();
+        for (Method method : LineDisc.class.getDeclaredMethods()) {
+            if (Modifier.isPublic(method.getModifiers())) {
+                told.add(signature(method).replaceAll("(\\w)\\)", "$1,)"));
+            }
+        }
+        int[] values = {LineDisc.UNKNOWN, LineDisc.BAD_VALUE, LineDisc.FULL, LineDisc.NOT_POSSIBLE, LineDisc.NONE};
+        String[] names = {"UNKNOWN", "BAD_VALUE", "FULL", "NOT_POSSIBLE", "NONE"};
+        for (int i = 0; i < values.length; i++) {
+            told.add("int " + names[i] + " = " + values[i]);
+        }
+        return told;
     }
 
     private static String signature(Method method) {
